@@ -11,7 +11,7 @@ public final class SignMatrices {
     private static final int MOST_SQUARES = 429;
     private static final int MOST_ENTRIES = 10725;
 
-    /** The search takes fewer than ten thousand steps at the greatest size. */
+    /** Far above what the search takes at the greatest size, some 18,000 steps. */
     private static final int MOST_STEPS = 1000000;
 
     private static final int ANY_ENTRY = 7;

@@ -14,7 +14,10 @@ final class Model {
     final int n;
     final int[][] allowed;
     int[][] hand;
-    private final List<int[][]> good = new ArrayList<>();
+    /** Found once for each size, since many models are made. */
+    private static final Map<Integer, List<int[][]>> GOOD = new HashMap<>();
+    private static final Map<int[][], Integer> PATTERNS = new HashMap<>();
+    private final List<int[][]> good;
     private List<int[][]> fitting = new ArrayList<>();
 
     Model(int size) {
@@ -24,6 +27,11 @@ final class Model {
             Arrays.fill(row, 7);
         }
         hand = new int[n][n];
+        good = GOOD.computeIfAbsent(n, key -> goodSquares());
+        refit();
+    }
+
+    private List<int[][]> goodSquares() {
         List<int[]> rows = new ArrayList<>();
         int combinations = (int) Math.pow(3, n);
         for (int code = 0; code < combinations; code++) {
@@ -37,21 +45,22 @@ final class Model {
                 rows.add(row);
             }
         }
-        stack(rows, new int[n][], 0);
-        good.sort(Model::compare);
-        refit();
+        List<int[][]> found = new ArrayList<>();
+        stack(rows, new int[n][], 0, found);
+        found.sort(Model::compare);
+        return found;
     }
 
-    private void stack(List<int[]> rows, int[][] square, int r) {
+    private void stack(List<int[]> rows, int[][] square, int r, List<int[][]> found) {
         if (r == n) {
             if (good(square)) {
-                good.add(copy(square));
+                found.add(copy(square));
             }
             return;
         }
         for (int[] row : rows) {
             square[r] = row;
-            stack(rows, square, r + 1);
+            stack(rows, square, r + 1, found);
         }
     }
 
@@ -324,6 +333,10 @@ final class Model {
     }
 
     private int patternOf(int[][] square) {
+        return PATTERNS.computeIfAbsent(square, this::drawnPattern);
+    }
+
+    private int drawnPattern(int[][] square) {
         Map<String, List<String>> joined = paths(square);
         StringBuilder digits = new StringBuilder();
         for (int e = 0; e < 4 * n; e++) {

@@ -22,6 +22,9 @@ public final class ModelTest {
         for (int run = 0; run < 240; run++) {
             mixedRun(random, run % 8 - 1);
         }
+        for (int run = 0; run < 30; run++) {
+            mixesWhereFewFit(random, 3 + run % 3);
+        }
         due.end();
     }
 
@@ -126,6 +129,26 @@ public final class ModelTest {
             int want = expect(method, a, b, c);
             run.append(call);
             due.is(got == want ? "" : run.toString(), got, want);
+        }
+    }
+
+    /** Leaves out some entries at some places, so that many a mix does not fit. */
+    private static void mixesWhereFewFit(Random random, int size) {
+        SignMatrices x = new SignMatrices(size);
+        model = new Model(size);
+        for (int i = 0; i < 4; i++) {
+            int r = random.nextInt(size);
+            int c = random.nextInt(size);
+            int set = new int[] {2, 3, 5, 6}[random.nextInt(4)];
+            String call = "size " + size + ": allow(" + r + ", " + c + ", " + set + ")";
+            due.is(call, x.allow(r, c, set), model.allow(r, c, set));
+        }
+        for (int i = 0; i < 500 && model.count() > 0; i++) {
+            int k = random.nextInt(model.count());
+            int l = random.nextInt(model.count());
+            int which = i % 2;
+            String call = "size " + size + ", few fit: mix(" + k + ", " + l + ", " + which + ")";
+            due.is(call, x.mix(k, l, which), model.mix(k, l, which));
         }
     }
 
