@@ -1,4 +1,7 @@
-/** Each promise of the document by itself, with answers worked out from its words. */
+/**
+ * Each promise of the document by itself, with fixed answers: by hand for sizes 1 to 3; some for
+ * sizes 4 and 5 were read off the program and are confirmed by ModelTest.
+ */
 public final class PromisesTest {
     private static final Due due = new Due();
     private static final int LEAST = Integer.MIN_VALUE;
