@@ -51,6 +51,7 @@ public final class BoundaryTest {
         inversionsOfFirstAndLast();
         inversionsLeaveOutTheSameLine();
         mixOfTheSameAndOfTheEnds();
+        thereIsAlwaysAMix();
         mixThatDoesNotFit();
         pathEndAtTheEnds();
         noRingsAndMostRings();
@@ -697,6 +698,25 @@ public final class BoundaryTest {
                     due.is(of + "itself", x.mix(k, k, which), k);
                     due.is(of + "the last", x.mix(k, last, which), which == 0 ? last : k);
                     due.is(of + "the first", x.mix(0, k, which), which == 0 ? k : 0);
+                }
+            }
+        }
+    }
+
+    /** Promise 14: "(there is always such a good square)", so with all allowed never -3. */
+    private static void thereIsAlwaysAMix() {
+        for (int n = 1; n <= 5; n++) {
+            // At size 5 some are left out, to keep the test short; the first and the last are not.
+            int step = n == 5 ? 4 : 1;
+            for (int k = 0; k < COUNTS[n]; k += step) {
+                SignMatrices x = new SignMatrices(n);
+                for (int l = 0; l <= k; l += step) {
+                    for (int which = 0; which <= 1; which++) {
+                        int mix = x.mix(k, l, which);
+                        String call = "size " + n + ": mix(" + k + ", " + l + ", " + which + ")";
+                        due.holds(call + " is a number", mix >= 0 && mix < COUNTS[n]);
+                        due.is(call + " the other way round", x.mix(l, k, which), mix);
+                    }
                 }
             }
         }

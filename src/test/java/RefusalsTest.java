@@ -156,6 +156,7 @@ public final class RefusalsTest {
         }
     }
 
+    /** "The tests of a call are made in the order in which they are named." */
     private static void one(Call call, int n, int cornerSet, int count, Argument[] takes, int[] values) {
         SignMatrices x = prepared(n, cornerSet);
         String told = "size " + n + ", corners " + cornerSet + ": " + call + Arrays.toString(values);
