@@ -12,7 +12,7 @@ public final class BoundaryTest {
     private static final int[] COUNTS = {0, 1, 2, 7, 42, 429};
     private static final int[] FACTORIALS = {1, 1, 2, 6, 24, 120};
 
-    /** How many good squares have 0, 1, 2, .. entries -1, for each size. */
+    /** How many good squares have 0, 1, 2, .. entries -1, for each size; CountingTest reckons it. */
     private static final int[][] NEGATIVES = {
         {}, {1}, {2}, {6, 1}, {24, 16, 2}, {120, 200, 94, 14, 1}};
 
@@ -567,6 +567,7 @@ public final class BoundaryTest {
         x.allow(0, 1, 5);
         due.is("rank() of a good one that is allowed", x.rank(), 0);
         SignMatrices y = withHand(3, 0, 1, 0, 1, -1, 1, 0, 1, 0);
+        // Three come before it: number 0 with 1 in the middle, numbers 1 and 2 with 0 there.
         int[] ranks = {0, 0, -2, 2, -2, 1, -2, 3};
         for (int set = 1; set <= 7; set++) {
             y.allow(1, 1, set);
@@ -608,10 +609,11 @@ public final class BoundaryTest {
     /** Promise 10: "The sum (wrapping)". */
     private static void theSumWraps() {
         SignMatrices x = new SignMatrices(5);
-        // For 211 the sum is still an int; for 212 and 215 just the powers are.
+        // The sum is 120 + 200 x + 94 x^2 + 14 x^3 + x^4. For 211 it is still an int; for 212, where
+        // it is 2157624184, and for 215, where it is 2280276145, just the powers are.
         due.is("weight(211)", x.weight(211), 2117861769);
-        due.is("weight(212)", x.weight(212), -2137343112);
-        due.is("weight(215)", x.weight(215), -2014691151);
+        due.is("weight(212)", x.weight(212), (int) 2157624184L);
+        due.is("weight(215)", x.weight(215), (int) 2280276145L);
         int[] bases = {LEAST, LEAST + 1, -65536, -46341, -1000, -217, -1, 0, 1, 2, 3, 214, 216, 256,
             1290, 1291, 46340, 46341, 65535, 65536, 65537, 1 << 30, GREATEST - 1, GREATEST};
         for (int n = 1; n <= 5; n++) {
@@ -754,11 +756,11 @@ public final class BoundaryTest {
     }
 
     /**
-     * Promise 16: no ring up to size 3, where there is no room for one inside; one at size 4. The
-     * sum at size 5 was read off the program and is confirmed by ModelTest.
+     * Promise 16: a ring has no place at the border, so there is no room for one up to size 3, and
+     * for no two at sizes 4 and 5. EdgesTest tells where all of them are.
      */
     private static void noRingsAndMostRings() {
-        int[] sums = {0, 0, 0, 0, 1, 34};
+        int[] sums = {0, 0, 0, 0, 1, 4 * 7 + 2 * 3};
         int[] most = {0, 0, 0, 0, 1, 1};
         for (int n = 1; n <= 5; n++) {
             SignMatrices x = new SignMatrices(n);

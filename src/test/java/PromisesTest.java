@@ -1,6 +1,6 @@
 /**
- * Each promise of the document by itself, with fixed answers: by hand for sizes 1 to 3; some for
- * sizes 4 and 5 were read off the program and are confirmed by ModelTest.
+ * Each promise of the document by itself, with fixed answers: by hand for sizes 1 to 3; where those
+ * for sizes 4 and 5 are not told in a comment, CountingTest and EdgesTest reckon them.
  */
 public final class PromisesTest {
     private static final Due due = new Due();
@@ -386,7 +386,10 @@ public final class PromisesTest {
         }
         SignMatrices y = new SignMatrices(4);
         putAll(y, 4, 0, 0, 1, 0, 1, 0, 0, 0, 0, 0, 0, 1, 0, 1, 0, 0);
-        due.is("16: rank()", y.rank(), 18);
+        // Before it come 7 squares with the first row 0 0 0 1. With 0 0 1 0 above them, the second
+        // rows 0 0 0 1, 0 1 -1 1, 0 1 0 0 and 1 0 -1 1 are less than 1 0 0 0: then the fourth row
+        // may have its 1 in 2, 3, 4 and 2 columns. Of the third rows that may follow, its is least.
+        due.is("16: rank()", y.rank(), 7 + 2 + 3 + 4 + 2);
         due.is("16: the ring in the middle of size 4", y.rings(18), 1);
         due.is("16: rings(42)", y.rings(42), -1);
         due.is("16: rings of the least k", y.rings(LEAST), -1);
