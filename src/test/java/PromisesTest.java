@@ -307,6 +307,10 @@ public final class PromisesTest {
             due.is("12: corner(0, " + bad + ", 0)", x.corner(0, bad, 0), -2);
             due.is("12: corner(0, 0, " + bad + ")", x.corner(0, 0, bad), -2);
         }
+        due.is("12: allow(0, 2, 2)", x.allow(0, 2, 2), 7);
+        due.is("12: corner(0, 0, 1) of the first that fits", x.corner(0, 0, 1), 1);
+        due.is("12: corner(1, 1, 0) of the second that fits", x.corner(1, 1, 0), 1);
+        due.is("12: corner(5, 0, 0)", x.corner(5, 0, 0), -1);
     }
 
     private static void promise13() {
@@ -318,6 +322,11 @@ public final class PromisesTest {
         for (int bad : new int[] {LEAST, -1, 7, GREATEST}) {
             due.is("13: inversions(" + bad + ")", x.inversions(bad), -1);
         }
+        due.is("13: allow(0, 2, 2)", x.allow(0, 2, 2), 7);
+        for (int k = 0; k < 5; k++) {
+            due.is("13: inversions(" + k + ") of those that fit", x.inversions(k), inversions[k + 2]);
+        }
+        due.is("13: inversions(5)", x.inversions(5), -1);
         SignMatrices y = new SignMatrices(5);
         due.is("13: size 5: inversions(0)", y.inversions(0), 10);
         due.is("13: size 5: inversions(428)", y.inversions(428), 0);
@@ -365,6 +374,11 @@ public final class PromisesTest {
         for (int bad : new int[] {LEAST, -1, 8, 9, GREATEST}) {
             due.is("15: pathEnd(0, " + bad + ")", x.pathEnd(0, bad), -2);
         }
+        due.is("15: allow(0, 0, 4)", x.allow(0, 0, 4), 7);
+        for (int e = 0; e < 8; e++) {
+            due.is("15: pathEnd(0, " + e + ") of the one that fits", x.pathEnd(0, e), ends[1][e]);
+        }
+        due.is("15: pathEnd(1, 1)", x.pathEnd(1, 1), -1);
         // The paths of the diagonal lie one inside the other.
         SignMatrices y = new SignMatrices(4);
         for (int e = 0; e < 16; e++) {
@@ -394,6 +408,10 @@ public final class PromisesTest {
         due.is("16: rings(42)", y.rings(42), -1);
         due.is("16: rings of the least k", y.rings(LEAST), -1);
         due.is("16: rings of the greatest k", y.rings(GREATEST), -1);
+        due.is("16: allow(0, 3, 2)", y.allow(0, 3, 2), 7);
+        due.is("16: its number when the first 7 do not fit", y.rank(), 11);
+        due.is("16: rings(11)", y.rings(11), 1);
+        due.is("16: rings(18)", y.rings(18), 0);
     }
 
     private static void promise17() {
@@ -408,6 +426,10 @@ public final class PromisesTest {
         due.is("17: size 3: pattern(0)", y.pattern(0), 0b101100);
         due.is("17: size 3: pattern(3)", y.pattern(3), 0b110010);
         due.is("17: size 3: pattern(6)", y.pattern(6), 0b111000);
+        due.is("17: allow(0, 2, 2)", y.allow(0, 2, 2), 7);
+        due.is("17: pattern(1) of those that fit", y.pattern(1), 0b110010);
+        due.is("17: pattern(4) of those that fit", y.pattern(4), 0b111000);
+        due.is("17: pattern(5)", y.pattern(5), -1);
         due.is("17: size 4: pattern(18)", new SignMatrices(4).pattern(18), 0b10101010);
         due.is("17: size 5: pattern(428)", new SignMatrices(5).pattern(428), 0b1111100000);
     }
